@@ -335,7 +335,22 @@ public final class PromiseTest {
 
     private static void dots() {
         CHECK.part("10 dots");
-        DotSquares x = typed("top", 1, 200, 30);
+        DotSquares x = typed("top", 255, 255, 255, 255, 255, 255, 255, 255, 255, 255, 255);
+        squaresOfTop(x);
+        x.wipe(0);
+        squaresOfTop(x);
+        x.type(0, 200);
+        squaresOfTop(x);
+        due("dots(-2, 0)", x.dots(-2, 0), BAD);
+        due("dots(4, 0)", x.dots(4, 0), BAD);
+        due("dots(0, 15)", x.dots(0, 15), BAD);
+        due("dots(-1, -1)", x.dots(-1, -1), BAD);
+        due("dots(0, 0) too long", tooLong().dots(0, 0), NOT);
+        due("dots(-1, 14) too long", tooLong().dots(-1, 14), NOT);
+        due("dots(4, 0) too long", tooLong().dots(4, 0), BAD);
+    }
+
+    private static void squaresOfTop(DotSquares x) {
         for (int mask = -1; mask < 4; mask++) {
             int format = Integer.reverse(8 + Math.max(mask, 0)) >>> 28;
             for (int row = 0; row < 15; row++) {
@@ -358,13 +373,6 @@ public final class PromiseTest {
                 dotsOfRow(x, mask, row);
             }
         }
-        due("dots(-2, 0)", x.dots(-2, 0), BAD);
-        due("dots(4, 0)", x.dots(4, 0), BAD);
-        due("dots(0, 15)", x.dots(0, 15), BAD);
-        due("dots(-1, -1)", x.dots(-1, -1), BAD);
-        due("dots(0, 0) too long", tooLong().dots(0, 0), NOT);
-        due("dots(-1, 14) too long", tooLong().dots(-1, 14), NOT);
-        due("dots(4, 0) too long", tooLong().dots(4, 0), BAD);
     }
 
     private static void dotsOfRow(DotSquares x, int mask, int row) {
@@ -816,8 +824,13 @@ public final class PromiseTest {
         due("sheet(0, 0, LEAST)", x.sheet(0, 0, LEAST), SIZE);
         due("count(8)", x.count(8), 5);
         due("get(0, 0, 59) as it was", x.get(0, 0, 59), 5);
+        for (int i = 0; i < 60; i++) {
+            x.lay(0, 0, i, 7);
+        }
         due("sheet(0, 1, 60) anew", x.sheet(0, 1, 60), 60);
-        due("get(0, 1, 59)", x.get(0, 1, 59), 0);
+        for (int i = 0; i < 60; i++) {
+            due("get(0, 1, " + i + ")", x.get(0, 1, i), 0);
+        }
         due("get(3, 2, 0) of no items", x.get(3, 2, 0), LEAST);
         due("count(8)", x.count(8), 2);
     }
@@ -973,6 +986,7 @@ public final class PromiseTest {
         for (int what = 0; what < 9; what++) {
             due("count(" + what + ")", x.count(what), want[what]);
         }
+        due("count(3) first", tooLong().count(3), 4);
         x = tooLong();
         want = new int[] {12, 2, NONE, 4, 0, 0, 0, 0, 0};
         for (int what = 0; what < 9; what++) {
