@@ -1,9 +1,6 @@
 /** Each promise of the document by itself: ordinary inputs, the edges it names, wrong inputs. */
-public final class PromiseTest {
-    private static final int NONE = -1, BAD = -2, NOT = -3, FULL = -4;
-    private static final int NULL = -11, INDEX = -12, CAST = -13, STORE = -14, SIZE = -15;
-    private static final int LEAST = Integer.MIN_VALUE;
-    private static final int[] OUTSIDE = {-1, LEAST, Integer.MAX_VALUE};
+public final class PromiseTest extends Marks {
+    private static final int[] OUTSIDE = {-1, LEAST, MOST};
     private static final Check CHECK = new Check();
 
     public static void main(String[] args) {
@@ -43,49 +40,6 @@ public final class PromiseTest {
 
     private static void due(String call, long got, long want) {
         CHECK.due(call, got, want);
-    }
-
-    /** An object with a level's name and bytes typed. */
-    private static DotSquares typed(String level, int... bytes) {
-        DotSquares x = new DotSquares();
-        for (int i = 0; i < level.length(); i++) {
-            x.type(1, level.charAt(i));
-        }
-        for (int b : bytes) {
-            x.type(0, b);
-        }
-        return x;
-    }
-
-    private static DotSquares tooLong() {
-        return typed("top", 1, 2, 3, 4, 5, 6, 7, 8, 9, 10, 11, 12);
-    }
-
-    /** Row and column of one of the dots of a symbol, which is 0 for its highest bit. */
-    private static int[] dotOf(DotSquares x, int block, int p, int which) {
-        for (int r = 0; r < 15; r++) {
-            for (int c = 0; c < 15; c++) {
-                if (x.place(r, c, 0) == 4 * (3 * p + block) + which) {
-                    return new int[] {r, c};
-                }
-            }
-        }
-        throw new IllegalStateException();
-    }
-
-    /** Adds a number of the field to a symbol as it is seen. */
-    private static void spoil(DotSquares x, int block, int p, int by) {
-        for (int which = 0; which < 4; which++) {
-            if ((by & 8 >> which) != 0) {
-                int[] dot = dotOf(x, block, p, which);
-                x.turn(dot[0], dot[1]);
-            }
-        }
-    }
-
-    private static void loseSymbol(DotSquares x, int block, int p) {
-        int[] dot = dotOf(x, block, p, p % 4);
-        x.lost(dot[0], dot[1]);
     }
 
     private static void newObject() {
@@ -573,14 +527,6 @@ public final class PromiseTest {
         due("seen(0, 15) too long", tooLong().seen(0, 15), BAD);
     }
 
-    /** Makes block 0 look like another whole one, whose item 0 differs by a number. */
-    private static void forge(DotSquares x, int level, int by) {
-        DotSquares one = typed(new String[] {"low", "mid", "top"}[level], 0);
-        for (int p = 0; p < 14; p++) {
-            spoil(x, 0, p, x.field(one.symbol(0, p), by, 0));
-        }
-    }
-
     private static void why() {
         CHECK.part("18 why");
         due("why() too long", tooLong().why(), 4);
@@ -718,7 +664,7 @@ public final class PromiseTest {
         x.lost(11, 0);
         due("block(0, 0), no format", x.block(0, 0), NOT);
         x.heal();
-        int[] last = dotOf(x, 2, 13, 3);
+        int[] last = dotOf(2, 13, 3);
         x.lost(14, 14);
         x.lost(14, 13);
         x.lost(14, 12);
