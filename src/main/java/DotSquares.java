@@ -692,9 +692,9 @@ public final class DotSquares {
             return a == 0 ? 0 : POWERS[Math.floorMod(LOGS[a & 15] * n, ORDER)];
         }
 
-        /** The number that stands for a place of a block in its sums. */
+        /** The number that stands for a place of a block in its sums; the mask keeps any p inside the row. */
         static int ofPlace(int p) {
-            return POWERS[Math.floorMod(SYMBOLS - 1 - p, ORDER)];
+            return POWERS[SYMBOLS - 1 - p & 15];
         }
     }
 

@@ -30,7 +30,11 @@ public final class FaceTest {
         CHECK.part("nested classes");
         nested();
         CHECK.part("source");
-        source(Files.readString(SOURCE));
+        String whole = Files.readString(SOURCE);
+        String code = whole.replaceAll("(?s)/\\*.*?\\*/", " ").replaceAll("//[^\n]*", " ");
+        source(whole, code);
+        CHECK.part("sizes");
+        sizes(new Rules(code));
         CHECK.finish("FaceTest");
     }
 
@@ -80,8 +84,22 @@ public final class FaceTest {
         }
     }
 
-    private static void source(String whole) {
-        String code = whole.replaceAll("(?s)/\\*.*?\\*/", " ").replaceAll("//[^\n]*", " ");
+    /** Rule 11. */
+    private static void sizes(Rules rules) {
+        int own = DotSquares.class.getDeclaredMethods().length;
+        for (Class<?> c : DotSquares.class.getDeclaredClasses()) {
+            own += c.getDeclaredMethods().length;
+            long fields = Arrays.stream(c.getDeclaredFields()).filter(f -> !Modifier.isStatic(f.getModifiers())).count();
+            CHECK.holds(c + " has some twenty fields", fields <= 20);
+        }
+        // methods are counted by names: what is not found by the scan would not be looked at
+        CHECK.holds("methods are found: " + rules.methods() + " names of " + own, rules.methods() > own * 8 / 10);
+        CHECK.holds("too long: " + rules.tooLong(), rules.tooLong().isEmpty());
+        CHECK.holds("too many parameters: " + rules.tooManyParameters(), rules.tooManyParameters().isEmpty());
+        CHECK.holds("calls go eight deep: " + rules.deepestChain(), rules.deepestChain().size() <= 8);
+    }
+
+    private static void source(String whole, String code) {
         for (String word : new String[] {"throw", "throws", "try", "catch", "synchronized", "assert",
             "import", "package", "protected", "native", "volatile"}) {
             CHECK.holds("no " + word, !Pattern.compile("\\b" + word + "\\b").matcher(code).find());
