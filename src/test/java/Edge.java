@@ -5,6 +5,7 @@ import java.lang.reflect.Method;
 import java.util.Arrays;
 import java.util.HashMap;
 import java.util.Map;
+import java.util.Set;
 
 /**
  * What the tests of boundary cases share: each quotes the sentence of the document that it is for,
@@ -43,6 +44,11 @@ abstract class Edge extends Marks {
     static void says(String words) {
         CHECK.part(section + ", \"" + words + "\"");
         holds("the document says so", DOCUMENT.quote(section, words));
+    }
+
+    /** The names of all calls. */
+    static Set<String> calls() {
+        return METHODS.keySet();
     }
 
     static long answer(DotSquares x, String call) {
